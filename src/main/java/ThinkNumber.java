@@ -499,7 +499,8 @@ public final class ThinkNumber {
         int most = 0;
         for (int rest = 0; rest < m && rest < KNOWN_MAX; rest++) {
             int part = set & withRest(m, rest);
-            if (part == set) {
+            boolean tellsNothing = part == set;
+            if (tellsNothing) {
                 return NEVER;
             }
             most = Math.max(most, fewestAsks(part, used | (1 << k)));
@@ -880,7 +881,7 @@ public final class ThinkNumber {
                 case REST:
                     return figures && x > 0 && put(up % x, 1);
                 case JOIN:
-                    return figures && put(up * TENS[figuresOf(x)] + x, 1);
+                    return figures && isNumber(x) && put(up * TENS[figuresOf(x)] + x, 1);
                 case TURN:
                     return figures && put(turned(), 1);
                 case ACROSS:
@@ -1017,14 +1018,14 @@ public final class ThinkNumber {
 
         /** Runs the first ORDERS, as many as are wanted: how many of them could be. */
         int run(int wanted, int[] thought, Value value) {
-            int last = Math.min(wanted, orders.count);
+            int most = Math.min(wanted, orders.count);
             begin(value, thought);
-            for (int i = 0; i < last; i++) {
+            for (int i = 0; i < most; i++) {
                 if (!value.obey(orders.kinds[i], orders.amount(i, thought))) {
                     return i;
                 }
             }
-            return last;
+            return most;
         }
 
         boolean comesToEnd(int[] thought, Value value) {
@@ -1369,13 +1370,11 @@ public final class ThinkNumber {
         private final int[] thought = new int[LETTERS];
         private final Value value = new Value();
         final int[] chosen = new int[MADE_MAX];
-        private Orders kit;
         private int low;
         private int numbers;
         private int goal;
 
-        int fewest(Orders itsKit, int itsLow, int high, int itsGoal, int most) {
-            kit = itsKit;
+        int fewest(Orders kit, int itsLow, int high, int itsGoal, int most) {
             low = itsLow;
             goal = itsGoal;
             numbers = Math.min(high - low + 1, MADE_FROM_MAX);
@@ -1386,22 +1385,22 @@ public final class ThinkNumber {
                 levels[0][j] = low + j;
             }
             for (int length = 1; length <= most && length <= MADE_MAX; length++) {
-                if (reaches(0, length)) {
+                if (reaches(kit, 0, length)) {
                     return length;
                 }
             }
             return NO_SUCH;
         }
 
-        private boolean reaches(int depth, int length) {
+        private boolean reaches(Orders kit, int depth, int length) {
             if (depth >= length || depth >= MADE_MAX) {
                 return false;
             }
             boolean last = depth + 1 == length;
             for (int k = 0; k < kit.count; k++) {
-                if (spread(depth, k, last)) {
+                if (spread(kit, k, depth, last)) {
                     chosen[depth] = k;
-                    if (last || reaches(depth + 1, length)) {
+                    if (last || reaches(kit, depth + 1, length)) {
                         return true;
                     }
                 }
@@ -1410,7 +1409,7 @@ public final class ThinkNumber {
         }
 
         /** Does the kit's ORDER on all numbers of a level; gives up at the first that it fails. */
-        private boolean spread(int depth, int k, boolean last) {
+        private boolean spread(Orders kit, int k, int depth, boolean last) {
             for (int j = 0; j < numbers; j++) {
                 value.setWhole(levels[depth][j]);
                 thought[0] = low + j;
