@@ -496,9 +496,10 @@ public final class ThinkNumber {
 
     private int mostAsksBehind(int set, int k, int used) {
         int m = now.asks[k];
+        int multiples = multiplesOf(m);
         int most = 0;
         for (int rest = 0; rest < m && rest < KNOWN_MAX; rest++) {
-            int part = set & withRest(m, rest);
+            int part = set & (multiples << rest);
             boolean tellsNothing = part == set;
             if (tellsNothing) {
                 return NEVER;
@@ -520,10 +521,10 @@ public final class ThinkNumber {
         return NONE;
     }
 
-    private static int withRest(int m, int rest) {
+    private static int multiplesOf(int m) {
         int bits = 0;
         for (int k = 0; k < KNOWN_MAX; k++) {
-            if (m > 0 && k % m == rest) {
+            if (m > 0 && k % m == 0) {
                 bits |= 1 << k;
             }
         }
