@@ -386,51 +386,45 @@ public final class ThinkNumber {
             return NONE;
         }
         now.playedTable = table;
-        now.played = 0;
-        System.arraycopy(now.thought, 0, now.playedThought, 0, LETTERS);
+        now.trail.count = 0;
+        t.begin(at, now.thought);
+        now.trail.append(at);
         return t.orders.count;
     }
 
     public int go() {
         Table t = find(now.playedTable);
-        if (t == null || !t.orders.has(now.played)) {
+        int next = now.ordersPlayed();
+        if (t == null || !t.orders.has(next)) {
             return NONE;
         }
-        int wanted = now.played + 1;
-        if (t.run(wanted, now.playedThought, at) < wanted) {
-            return NONE;
-        }
-        now.played = wanted;
-        return wanted - 1;
+        now.trail.readLast(at);
+        boolean can = at.obey(t.orders.kinds[next], t.orders.amount(next, now.thought));
+        return can && now.trail.append(at) ? next : NONE;
     }
 
     /** A ROW has at most 24 ORDERS, so each STEP of it is among the latest 30. */
     public int undo() {
-        if (now.played < 1) {
+        if (now.ordersPlayed() < 1) {
             return NONE;
         }
-        now.played--;
-        return now.played;
+        now.trail.count--;
+        return now.ordersPlayed();
     }
 
     public long value(boolean low) {
-        Table t = find(now.playedTable);
-        if (t == null) {
-            at.setWhole(0);
-        } else {
-            t.run(now.played, now.playedThought, at);
-        }
+        now.trail.readLast(at);
         return at.part(low);
     }
 
     public int image() {
         kept.copyFrom(now);
-        return now.played;
+        return now.ordersPlayed();
     }
 
     public int back() {
         now.copyFrom(kept);
-        return now.played;
+        return now.ordersPlayed();
     }
 
     public int about(int what) {
@@ -441,7 +435,7 @@ public final class ThinkNumber {
                 return now.playedTable;
             case 2:
             case 3:
-                return now.played;
+                return now.ordersPlayed();
             case 4:
                 return now.claims.count;
             case 5:
@@ -924,7 +918,7 @@ public final class ThinkNumber {
         }
     }
 
-    /** VALUES that were told, one behind the other. */
+    /** VALUES that were told or PLAYED, one behind the other. */
     private static final class Values {
         private final long[] ups;
         private final long[] lows;
@@ -940,14 +934,30 @@ public final class ThinkNumber {
                 count = 0;
                 return 0;
             }
-            if (!isTold(up, down) || count >= ups.length) {
+            if (!isTold(up, down)) {
                 return NONE;
             }
             by.put(up, down);
-            ups[count] = by.up;
-            lows[count] = by.low;
+            return append(by) ? count : NONE;
+        }
+
+        boolean append(Value value) {
+            if (count >= ups.length) {
+                return false;
+            }
+            ups[count] = value.up;
+            lows[count] = value.low;
             count++;
-            return count;
+            return true;
+        }
+
+        /** The latest of them; 0 if there is none. */
+        void readLast(Value into) {
+            into.setWhole(0);
+            if (count > 0 && count <= ups.length) {
+                into.up = ups[count - 1];
+                into.low = lows[count - 1];
+            }
         }
 
         boolean holds(int i, Value value) {
@@ -1121,8 +1131,15 @@ public final class ThinkNumber {
         final int[] asks = new int[ASKS_MAX];
         int askCount;
         int playedTable = NONE;
-        int played;
-        final int[] playedThought = new int[LETTERS];
+        /**
+         * The VALUE at first and those behind the ORDERS PLAYED. They are kept, not run again, as
+         * something else may be THOUGHT between two ORDERS.
+         */
+        final Values trail = new Values(CLAUSES_MAX + 1);
+
+        int ordersPlayed() {
+            return Math.max(trail.count - 1, 0);
+        }
 
         void copyFrom(State from) {
             tables = from.tables;
@@ -1133,8 +1150,7 @@ public final class ThinkNumber {
             System.arraycopy(from.asks, 0, asks, 0, ASKS_MAX);
             askCount = from.askCount;
             playedTable = from.playedTable;
-            played = from.played;
-            System.arraycopy(from.playedThought, 0, playedThought, 0, LETTERS);
+            trail.copyFrom(from.trail);
         }
     }
 

@@ -262,11 +262,13 @@ public final class AgainstModelTest {
                 due("known " + n, x.known(n, false), model.known(n, false));
                 due("first of " + n, x.known(n, true), model.known(n, true));
             }
-            default -> {
-                int[] by = {number(), number(), number(), number()};
-                due("think", x.think(by[0], by[1], by[2], by[3]) ? 1 : 0, model.think(by) ? 1 : 0);
-            }
+            default -> thinkAnew();
         }
+    }
+
+    private void thinkAnew() {
+        int[] by = {number(), number(), number(), number()};
+        due("think", x.think(by[0], by[1], by[2], by[3]) ? 1 : 0, model.think(by) ? 1 : 0);
     }
 
     private void make() {
@@ -287,6 +289,9 @@ public final class AgainstModelTest {
             case 2, 3, 4 -> {
                 for (int k = upTo(4); k >= 0; k--) {
                     due("go", x.go(), model.go());
+                    if (upTo(4) == 0) {
+                        thinkAnew();
+                    }
                 }
             }
             case 5 -> due("undo", x.undo(), model.undo());

@@ -51,7 +51,7 @@ final class Model {
     }
 
     record Kept(List<Table> tables, int[] thought, List<Frac> claims, List<Frac> heard, List<Order> kit,
-        List<Integer> asks, int played, List<Frac> steps, int[] playedThought) {
+        List<Integer> asks, int played, List<Frac> steps) {
     }
 
     private List<Table> tables = new ArrayList<>();
@@ -63,7 +63,6 @@ final class Model {
     private int played = -1;
     /** The values of the row played: that at first, and one for each step. */
     private List<Frac> steps = new ArrayList<>();
-    private int[] playedThought = new int[4];
     private final StringBuilder tape = new StringBuilder();
     private int fault = -1;
     private int place = -1;
@@ -71,7 +70,7 @@ final class Model {
 
     private Kept snapshot() {
         return new Kept(new ArrayList<>(tables), thought.clone(), new ArrayList<>(claims), new ArrayList<>(heard),
-            new ArrayList<>(kit), new ArrayList<>(asks), played, new ArrayList<>(steps), playedThought.clone());
+            new ArrayList<>(kit), new ArrayList<>(asks), played, new ArrayList<>(steps));
     }
 
     boolean think(int... four) {
@@ -697,7 +696,6 @@ final class Model {
             return -1;
         }
         played = table;
-        playedThought = thought.clone();
         steps = new ArrayList<>(List.of(begin(t, thought)));
         return t.orders().size();
     }
@@ -709,7 +707,7 @@ final class Model {
             return -1;
         }
         Order o = t.orders().get(next);
-        Frac v = obey(steps.get(next), o.kind(), o.x(playedThought));
+        Frac v = obey(steps.get(next), o.kind(), o.x(thought));
         if (v == null) {
             return -1;
         }
@@ -743,7 +741,6 @@ final class Model {
         asks = new ArrayList<>(kept.asks());
         played = kept.played();
         steps = new ArrayList<>(kept.steps());
-        playedThought = kept.playedThought().clone();
         return about(2);
     }
 

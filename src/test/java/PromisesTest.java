@@ -913,9 +913,7 @@ public final class PromisesTest {
         due("steps are forgotten", x.about(3), 0);
         due("none can be taken back", x.undo(), NONE);
         x.think(8, 5, 0, 0);
-        due("the row is by what was thought then", x.value(false), 7);
-        x.go();
-        due("and so are its letters", x.value(false), 9);
+        due("it began with what was thought then", x.value(false), 7);
         x.play(0);
         x.go();
         due("anew, by what is thought now", x.value(false), 13);
@@ -932,6 +930,7 @@ public final class PromisesTest {
         due("the value stays", x.value(false), 7);
         due("and its lower", x.value(true), 2);
         due("orders played", x.about(2), 2);
+        goByWhatIsThought();
         Due.table(x, "say;");
         x.play(1);
         due("the only one", x.go(), 0);
@@ -939,6 +938,39 @@ public final class PromisesTest {
         Due.table(x, "");
         due("no orders", x.play(2), 0);
         due("none", x.go(), NONE);
+    }
+
+    /** Between two orders something else may be thought: the next one takes that. */
+    private static void goByWhatIsThought() {
+        ThinkNumber x = Due.with("hide a from 1 to 9;hide b from 0 to 9;add b;by b;add a;");
+        x.think(7, 2, 0, 0);
+        x.play(0);
+        x.think(8, 5, 0, 0);
+        due("go", x.go(), 0);
+        due("the first value stays, the letter is the new one", x.value(false), 12);
+        x.think(8, 0, 0, 0);
+        due("the value stays", x.value(false), 12);
+        due("by 0 can't be", x.go(), NONE);
+        x.think(8, 4, 0, 0);
+        due("now it can", x.go(), 1);
+        due("by 4", x.value(false), 3);
+        x.image();
+        due("a too", x.go(), 2);
+        due("by 8", x.value(false), 11);
+        due("undo", x.undo(), 2);
+        x.think(1, 1, 0, 0);
+        due("undo", x.undo(), 1);
+        due("as it was behind its step", x.value(false), 12);
+        due("again", x.go(), 1);
+        due("by what is thought now", x.value(false), 12);
+        due("back", x.back(), 2);
+        due("the value of the image", x.value(false), 3);
+        due("go on", x.go(), 2);
+        due("by what was thought in the image", x.value(false), 11);
+        due("undo", x.undo(), 2);
+        due("undo", x.undo(), 1);
+        due("undo", x.undo(), 0);
+        due("that at first", x.value(false), 7);
     }
 
     private static void undo() {
