@@ -278,8 +278,8 @@ public final class MadeBoundsTest {
     }
 
     private static void madeNoneSuch() {
-        sentence("Promise 21", "how many ORDERS (i NONE); the i-th, by its number in the KIT. -2: none, there is none such,"
-            + " and for others.");
+        sentence("Promise 21", "how many ORDERS (i NONE); the i-th, by its number in the KIT. -2: none, there is none"
+            + " such, and for others.");
         Bounds.refusedBy(Bounds::use, "how many", 3, x -> x.made(1, 20, 5, 5, NONE));
         Bounds.refusedBy(Bounds::use, "the first", 1, x -> x.made(1, 20, 5, 5, 0));
         Bounds.refusedBy(Bounds::use, "the last", 2, x -> x.made(1, 20, 5, 5, 2));

@@ -28,6 +28,7 @@ public final class PlayBoundsTest {
         aboutEach();
         aboutForOthers();
         constants();
+        calls512();
         Due.finish("PlayBoundsTest");
     }
 
@@ -509,5 +510,20 @@ public final class PlayBoundsTest {
         sentence("Terms IV", "The constants: NONE = -1 .. SPENT = -2");
         due("NONE", ThinkNumber.NONE, -1);
         due("SPENT", ThinkNumber.SPENT, -2);
+    }
+
+    private static void calls512() {
+        sentence("What it is", "An object is used for at most 512 calls after it has been made");
+        ThinkNumber x = new ThinkNumber();
+        x.feed(0x61646420, 0x373b2020, 0x20202020, 0x20202020, 0x20202020);
+        due("the 2nd, \"add 7;\"", x.table(), 0);
+        x.play(0);
+        for (int call = 4; call <= 509; call += 2) {
+            due("call " + call, x.go(), 0);
+            due("call " + (call + 1), x.undo(), 0);
+        }
+        due("the 510th", x.go(), 0);
+        due("the 511th", x.image(), 1);
+        due("the 512th", x.value(false), 7);
     }
 }

@@ -508,8 +508,8 @@ public final class TextBoundsTest {
         sentence("Terms II", "6 the 25th CLAUSE (at its first TOKEN).");
         right("say;".repeat(24) + "  \n");
         wrong("say;".repeat(24) + "  \nsay;", 6, 99);
-        for (String word : new String[] {"add", "take", "times", "by", "rest", "join", "turn", "across", "strike", "say",
-            "hide"}) {
+        String[] words = {"add", "take", "times", "by", "rest", "join", "turn", "across", "strike", "say", "hide"};
+        for (String word : words) {
             wrong("say;".repeat(24) + word, 6, 96);
             wrong("say;".repeat(24) + word + " !", 6, 96);
         }

@@ -126,7 +126,8 @@ public final class ToldBoundsTest {
                 x.claim((int) x.comes(0, i, false), (int) x.comes(0, i, true));
             }
             due("claimed", x.claim(up == 1000000000 ? up - by : up + by, down), last + 1);
-            due("claim of " + up + " by " + down + (by == 0 ? "" : ", one beside it"), x.judge(0), by == 0 ? NONE : last);
+            String beside = by == 0 ? "" : ", one beside it";
+            due("claim of " + up + " by " + down + beside, x.judge(0), by == 0 ? NONE : last);
         }
     }
 
@@ -244,13 +245,14 @@ public final class ToldBoundsTest {
     }
 
     private static void allInOrder() {
-        sentence("Terms III", "of each HIDDEN LETTER its SPAN, of others 0: first by a, then b, c, d, from the least on");
+        sentence("Terms III",
+            "of each HIDDEN LETTER its SPAN, of others 0: first by a, then b, c, d, from the least on");
         String hides = "hide d from 3 to 4;hide c from 5 to 6;hide b from 7 to 8;hide a from 1 to 2;";
         dueUnlike(hides + "times 0;add d;", 1, 7, 5, 4);
         dueUnlike(hides + "times 0;add c;", 1, 7, 6, 3);
         dueUnlike(hides + "times 0;add b;", 1, 8, 5, 3);
         dueUnlike(hides + "add 0;", 2, 7, 5, 3);
-        dueUnlike(hides + "times 0;add 1;add b;take 7;add c;take 5;add d;take 3;strike 1;by d;", NONE, NONE, NONE, NONE);
+        dueUnlike(hides + "times 0;add b;take 7;add c;take 5;add d;take 3;strike 1;by d;", NONE, NONE, NONE, NONE);
         dueUnlike("hide b from 7 to 8;add b;", 0, 8, 0, 0);
         dueUnlike("hide d from 9998 to 9999;add d;", 0, 0, 0, 9999);
         dueUnlike("hide a from 0 to 9999;take 9998;times 0;add a;by 9999;times 0;", NONE, NONE, NONE, NONE);
@@ -318,8 +320,8 @@ public final class ToldBoundsTest {
     }
 
     private static void unlikeFirst() {
-        sentence("Terms III", "UNLIKE: else the first by which it doesn't end as by the first of all (or doesn't come to"
-            + " its end).");
+        sentence("Terms III",
+            "UNLIKE: else the first by which it doesn't end as by the first of all (or doesn't come to its end).");
         dueUnlike("hide a from 3 to 9;", 4, 0, 0, 0);
         dueUnlike("hide a from 3 to 9;times 0;", NONE, NONE, NONE, NONE);
         dueUnlike("hide a from 3 to 9;by 0;", 3, 0, 0, 0);
@@ -641,8 +643,8 @@ public final class ToldBoundsTest {
     }
 
     private static void moreLowest() {
-        sentence("Terms III", "MORE: the lowest ORDER such that .. no two of ALL by which the ROW comes to its end would"
-            + " be alike.");
+        sentence("Terms III",
+            "MORE: the lowest ORDER such that .. no two of ALL by which the ROW comes to its end would be alike.");
         due("the first order tells", Due.with("hide a from 0 to 9;add 1;add 1;").more(0), 0);
         due("the last alone", Due.with("hide a from 0 to 9;times 0;".concat("say;".repeat(20)) + "add a;").more(0), 21);
         due("the 24th clause", Due.with("hide b from 0 to 9;" + "say;".repeat(22) + "add b;").more(0), 22);
@@ -688,8 +690,8 @@ public final class ToldBoundsTest {
     }
 
     private static void slipKinds() {
-        sentence("Terms III", "0 left out, 1 done twice, 2 turned round (add for take, times for by, and the other way; of"
-            + " others: none)");
+        sentence("Terms III", "0 left out, 1 done twice, 2 turned round (add for take, times for by, and the other way;"
+            + " of others: none)");
         dueSlips("add 12;add 3;", 9, 5);
         dueSlips("add 12;take 3;", 15, 5);
         dueSlips("add 12;times 3;", 4, 5);

@@ -368,7 +368,8 @@ public final class ValueBoundsTest {
     }
 
     private static void rowBegins() {
-        sentence("Terms I", "A ROW of ORDERS begins with the VALUE that was THOUGHT of LETTER a, if that is HIDDEN, else 0");
+        sentence("Terms I",
+            "A ROW of ORDERS begins with the VALUE that was THOUGHT of LETTER a, if that is HIDDEN, else 0");
         ThinkNumber x = Due.with("hide a from 3 to 4;add 1;");
         Due.table(x, "hide b from 3 to 4;hide c from 3 to 4;hide d from 3 to 4;add 1;");
         Due.table(x, "add 1;");
