@@ -1,5 +1,6 @@
 import java.lang.management.ManagementFactory;
 import java.lang.reflect.Constructor;
+import java.lang.reflect.Executable;
 import java.lang.reflect.Field;
 import java.lang.reflect.Method;
 import java.lang.reflect.Modifier;
@@ -8,16 +9,14 @@ import java.nio.file.Path;
 import java.util.Arrays;
 import java.util.Set;
 import java.util.TreeSet;
+import java.util.regex.Matcher;
+import java.util.regex.Pattern;
+import java.util.stream.Collectors;
 
 /** The rules of LANGUAGE.md that can be looked at from outside: the face, the words, the room. */
 public final class LanguageTest {
-    private static final String FACE = "boolean think(int,int,int,int) int feed(int,int,int,int,int) int end(int)"
-        + " int table() int fault(int) int order(int,int,boolean) int span(int,int,boolean)"
-        + " long comes(int,int,boolean) int fails(int) long said(int,int,boolean) int claim(int,int) int judge(int)"
-        + " int same(int) int unlike(int,int) long proof(int,int) int hear(int,int) int fits(int,int,int)"
-        + " int more(int) int kit(int,int) int made(int,int,int,int,int) int slip(int,int,int,int) int ask(int)"
-        + " int known(int,boolean) int rest(int) int struck(int) int play(int) int go() int undo()"
-        + " long value(boolean) int image() int back() int about(int)";
+    private static final Pattern BLOCK = Pattern.compile("(?ms)^```java\\n(.*?)^```$");
+    private static final Pattern MEMBER = Pattern.compile("(?m)^    public (.*);$");
     private static final String[] BANNED = {"throw", "throws", "try", "catch", "synchronized", "assert", "finally",
         "double", "float", "Exact", "->", "::", "System.out", "Random", "Thread", "nanoTime", "currentTimeMillis",
         "hashCode", "getClass", "toString", "protected"};
@@ -31,35 +30,40 @@ public final class LanguageTest {
         Due.finish("LanguageTest");
     }
 
-    private static void face() {
+    /** The members that the document's block of the public face has, and no other. */
+    private static void face() throws Exception {
         Class<?> c = ThinkNumber.class;
         Due.due("public and final", Modifier.isPublic(c.getModifiers()) && Modifier.isFinal(c.getModifiers()), true);
-        Set<String> want = new TreeSet<>(Arrays.asList(FACE.split("(?<=\\)) ")));
+        Matcher block = BLOCK.matcher(Files.readString(Path.of("../shared/DOC.md")));
+        Due.due("the document has a face", block.find(), true);
+        Set<String> want = MEMBER.matcher(block.group(1)).results()
+            .map(m -> m.group(1).replaceAll("(int|boolean) \\w+(?=[,)])", "$1")).collect(Collectors.toSet());
+        Due.due("members of the document's face", want.size(), 35);
         Set<String> got = new TreeSet<>();
         Set<String> names = new TreeSet<>();
         for (Method m : c.getDeclaredMethods()) {
             if (!Modifier.isPrivate(m.getModifiers())) {
                 names.add(m.getName());
-                String parameters = Arrays.toString(
-                    Arrays.stream(m.getParameterTypes()).map(Class::getName).toArray());
-                got.add(m.getReturnType() + " " + m.getName()
-                    + parameters.replace("[", "(").replace("]", ")").replace(", ", ","));
+                got.add(m.getReturnType() + " " + m.getName() + parameters(m));
+                Due.due("public, not static: " + m, m.getModifiers(), Modifier.PUBLIC);
             }
         }
-        Due.due("methods of the face " + got, got.equals(want), true);
-        Set<String> constants = new TreeSet<>();
+        for (Constructor<?> m : c.getDeclaredConstructors()) {
+            got.add(c.getName() + parameters(m));
+            Due.due("public: " + m, m.getModifiers(), Modifier.PUBLIC);
+        }
         for (Field f : c.getDeclaredFields()) {
             if (!Modifier.isPrivate(f.getModifiers())) {
-                constants.add(f.getName());
+                got.add("static final " + f.getType() + " " + f.getName() + " = " + f.get(null));
+                Due.due("a constant: " + f, f.getModifiers(), Modifier.PUBLIC | Modifier.STATIC | Modifier.FINAL);
             }
-            Due.due("a static field is final: " + f, !Modifier.isStatic(f.getModifiers())
-                || Modifier.isFinal(f.getModifiers()), true);
         }
-        Due.due("constants " + constants, constants.equals(Set.of("NONE", "SPENT")), true);
-        Constructor<?>[] constructors = c.getDeclaredConstructors();
-        Due.due("one constructor", constructors.length, 1);
-        Due.due("it takes nothing", constructors[0].getParameterCount(), 0);
+        Due.due("the face " + got, got.equals(want), true);
         inside(c, names);
+    }
+
+    private static String parameters(Executable m) {
+        return Arrays.stream(m.getParameterTypes()).map(Class::getName).collect(Collectors.joining(", ", "(", ")"));
     }
 
     private static void inside(Class<?> c, Set<String> names) {
